@@ -64,6 +64,9 @@ public final class RoofTest {
         Trial.due("round and down", g.rolls(0, 0), 17);
         Trial.due("the shoe does not roll", put(g, SHOE, 2, 0), 2);
         Trial.due("rolls(2, 0)", g.rolls(2, 0), NONE);
+        put(g, BALL, 1, 2);
+        Trial.due("rolls(1, 2), by the first THING", g.rolls(1, 2), NONE);
+        g.undo();
         Trial.due("stopped by the shoe", g.rolls(0, 0), 1);
         Trial.due("one step of the frisbee", put(g, FRISBEE, 0, 0), 1);
         Trial.due("the stick does not roll", put(g, STICK, 1, 1), 9);

@@ -30,6 +30,9 @@ public final class SummerTest {
         Trial.due("pitch far below", g.pitch(Integer.MIN_VALUE), NONE);
         g.toss(0, 0, 0, 2, 0);
         Trial.due("THINGS do not count", g.pitch(2), 12);
+        GutterNine middle = Trial.of("fdf fdf", "shot left 0 up 1 times 3;");
+        Trial.due("the middle column", middle.pitch(1), 1);
+        Trial.due("none is lost there", middle.pitch(0), 0);
         GutterNine net = Trial.of("ff ff", "shot left 0 up 1 times 1;shot left 0 up 2 times 2;shot left 0 up 3 times 4; net 2;");
         Trial.due("higher than the net comes back", net.pitch(2), 3);
         Trial.due("of equal columns the first", net.pitch(1), 0);
@@ -171,6 +174,7 @@ public final class SummerTest {
         Trial.due("summer(-1, 1, 0)", g.summer(-1, 1, 0), NONE);
         Trial.due("summer(10000, 1, 0)", g.summer(10000, 1, 0), NONE);
         Trial.due("summer(0, 0, 0)", g.summer(0, 0, 0), NONE);
+        Trial.due("summer(9999, 60, 0)", g.summer(9999, 60, 0) >= 0, true);
         Trial.due("summer(0, 61, 0)", g.summer(0, 61, 0), NONE);
         Trial.due("summer(0, 1, 4)", g.summer(0, 1, 4), NONE);
         Trial.due("summer(0, 1, -1)", g.summer(0, 1, -1), NONE);

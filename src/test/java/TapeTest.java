@@ -9,6 +9,7 @@ public final class TapeTest {
         roofs();
         roofFaults();
         yardFaults();
+        linesCutShort();
         names();
         laws();
         lawFaults();
@@ -164,6 +165,30 @@ public final class TapeTest {
         fault(false, "window 0 0 reach 9", 4, 17);
         fault(false, "first 7", 4, 6);
         fault(false, "net", 1, 3);
+    }
+
+    /** Each line ended by a semicolon, or by the text's end, behind each of its tokens but the last. */
+    private static void linesCutShort() {
+        String[] lines = {"person a arm 1", "thing t ball of pp worth 5", "shot left 1 up 2 times 3", "net 3",
+            "window 1 2 reach 3", "first 2", "temper lost + ( 1 * not 3 )", "damage 1 < 2 and ( 5"};
+        for (String line : lines) {
+            String[] tokens = line.split(" ");
+            StringBuilder text = new StringBuilder(PERSON);
+            for (int i = 0; i < tokens.length - 1; i++) {
+                text.append(tokens[i]).append(' ');
+                boolean whole = text.toString().endsWith("temper lost ") || text.toString().endsWith("damage 1 ")
+                    || text.toString().endsWith("2 ") && text.toString().contains("damage");
+                fault(false, text + "; ", whole ? 0 : 1, text.length());
+                fault(false, text.toString(), 1, text.length());
+            }
+        }
+        String roof = "roof 2 2 ; row ff ; row dd ;";
+        for (int i = 0; i < roof.length() - 1; i++) {
+            boolean within = i > 0 && Character.isLetter(roof.charAt(i - 1)) && Character.isLetter(roof.charAt(i));
+            if (!within) {
+                fault(true, roof.substring(0, i), 1, i);
+            }
+        }
     }
 
     private static void names() {

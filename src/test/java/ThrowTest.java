@@ -80,6 +80,10 @@ public final class ThrowTest {
         for (int what = 0; what <= 3; what++) {
             Trial.due("of equal ones the first, " + what, flat.next(what), 0);
         }
+        GutterNine shrunk = Trial.of("ffff ffff ffff ffff", "person a arm 5;thing x shoe of a worth 1;");
+        Trial.due("all may stay but at the corner", shrunk.next(0), -80 + 25);
+        Trial.due("a smaller roof", Trial.roof(shrunk, "roof 2 2;row ff;row ff;"), 0);
+        Trial.due("what was beyond is beside it now", shrunk.next(0), -80 + 25);
         Trial.dueToThrow("next(4)", () -> flat.next(4));
         Trial.dueToThrow("next(-1)", () -> flat.next(-1));
         flat.toss(0, 0, 0, 0, 0);
@@ -208,6 +212,52 @@ public final class ThrowTest {
                 }
             }
         }
+        compareNext(g);
+        Trial.due("plan(1) by throws", g.plan(1), plan(g, 1));
+        Trial.due("plan(2) by throws", g.plan(2), plan(g, 2));
+        g.toss(1, 2, 3, 2, 0);
+        compareNext(g);
+        Trial.due("plan(2) by throws, the shoe on the roof", g.plan(2), plan(g, 2));
+    }
+
+    private static void compareNext(GutterNine g) {
+        int[] best = null;
+        for (int person = 0; person < g.count(2); person++) {
+            for (int thing = 0; thing < g.count(3); thing++) {
+                for (int cell = 0; cell < 12 && g.thing(thing, 3) == 64; cell++) {
+                    int gain = g.gain(person, thing, cell % 4, cell / 4);
+                    if (best == null || gain > best[0]) {
+                        best = new int[] {gain, person, thing, cell / 4 * 8 + cell % 4};
+                    }
+                }
+            }
+        }
+        for (int what = 0; what <= 3; what++) {
+            Trial.due("next(" + what + ") of all gains", g.next(what), best[what]);
+        }
+    }
+
+    private static int plan(GutterNine g, int ahead) {
+        if (ahead == 0) {
+            return inHand(g);
+        }
+        int best = 80 * plan(g, ahead - 1);
+        for (int person = 0; person < g.count(2); person++) {
+            for (int pair = 0; pair < 25; pair++) {
+                int cell = g.thing(pair % 5, 3);
+                if (g.thing(pair / 5, 3) != 64 || cell >= 64) {
+                    continue;
+                }
+                int sum = 0;
+                for (int slip = 0; slip <= 8; slip++) {
+                    g.toss(person, pair / 5, cell % 8, cell / 8, slip);
+                    sum += (slip == 0 ? 8 * g.arm(person) : 10 - g.arm(person)) * plan(g, ahead - 1);
+                    g.undo();
+                }
+                best = Math.max(best, sum);
+            }
+        }
+        return best;
     }
 
     private static void compare(GutterNine g, int person, int thing, int x, int y) {

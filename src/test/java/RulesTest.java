@@ -1,0 +1,99 @@
+import java.io.IOException;
+import java.lang.reflect.Field;
+import java.lang.reflect.Method;
+import java.lang.reflect.Modifier;
+import java.nio.file.Files;
+import java.nio.file.Path;
+import java.util.ArrayList;
+import java.util.Arrays;
+import java.util.List;
+import java.util.TreeSet;
+
+/** The public face, and what can be seen of the rules of LANGUAGE.md in the source. Runs in the project's folder. */
+public final class RulesTest {
+    private static final List<String> FACE = List.of("feed long long long int", "roof int", "yard int",
+        "tile int int int int", "thing int int int", "arm int int", "toss int int int int int int", "hose int int",
+        "broom int", "gale int int", "days int int", "fetch int int", "undo boolean", "rolls int int int",
+        "odds int int int int int int", "gain int int int int int", "next int int", "plan int int",
+        "alone int int int", "washed int int int", "blown int int", "await int int", "see int int boolean",
+        "lies int int int int int int", "pitch int int", "pays int int int", "rests int int int",
+        "otherwise int int int int int", "summer int int int int", "mark int boolean boolean", "count int int");
+    private static final List<String> FORBIDDEN = List.of("->", "::", "catch", "finally", "synchronized", "assert ",
+        "Exact(", "instanceof", "System.out", "Random", "nanoTime", "protected ", "@");
+
+    public static void main(String[] args) throws IOException {
+        face();
+        source(Files.readAllLines(Path.of("src/main/java/GutterNine.java")));
+        Trial.end();
+    }
+
+    private static void face() {
+        TreeSet<String> open = new TreeSet<>();
+        TreeSet<String> names = new TreeSet<>();
+        for (Method m : GutterNine.class.getDeclaredMethods()) {
+            StringBuilder told = new StringBuilder(m.getName());
+            for (Class<?> type : m.getParameterTypes()) {
+                told.append(' ').append(type.getName());
+            }
+            if (!Modifier.isPrivate(m.getModifiers())) {
+                open.add(told.append(' ').append(m.getReturnType().getName()).toString());
+                names.add(m.getName());
+            }
+        }
+        same("the face", open, new TreeSet<>(FACE));
+        for (Class<?> inner : GutterNine.class.getDeclaredClasses()) {
+            Trial.due(inner + " is static and not public", Modifier.isStatic(inner.getModifiers())
+                && !Modifier.isPublic(inner.getModifiers()), true);
+            Trial.due(inner + " has some twenty fields", fields(inner) <= 20, true);
+            for (Method m : inner.getDeclaredMethods()) {
+                Trial.due(m + " bears a name of the face", names.contains(m.getName()), false);
+                Trial.due(m + " has seven parameters at most", m.getParameterCount() <= 7, true);
+            }
+        }
+        Trial.due("some twelve classes", GutterNine.class.getDeclaredClasses().length <= 12, true);
+        Trial.due("one constructor", GutterNine.class.getDeclaredConstructors().length, 1);
+        Trial.due("the class is public and final", GutterNine.class.getModifiers(), Modifier.PUBLIC | Modifier.FINAL);
+        for (Field f : GutterNine.class.getDeclaredFields()) {
+            Trial.due(f + " is private", Modifier.isPrivate(f.getModifiers()), !f.getName().equals("NONE"));
+            Trial.due(f + " is final if static", !Modifier.isStatic(f.getModifiers())
+                || Modifier.isFinal(f.getModifiers()), true);
+        }
+    }
+
+    private static int fields(Class<?> type) {
+        return (int) Arrays.stream(type.getDeclaredFields()).filter(f -> !Modifier.isStatic(f.getModifiers())).count();
+    }
+
+    private static void same(String what, TreeSet<String> got, TreeSet<String> want) {
+        Trial.due(what, got.equals(want), true);
+        if (!got.equals(want)) {
+            System.out.println("got " + got + "\nwant " + want);
+        }
+    }
+
+    private static void source(List<String> lines) {
+        List<String> imports = new ArrayList<>();
+        int start = -1;
+        for (int i = 0; i < lines.size(); i++) {
+            String line = lines.get(i);
+            String code = line.replaceAll("//.*", "").trim();
+            if (code.startsWith("import ")) {
+                imports.add(code);
+            }
+            if (code.startsWith("*") || code.startsWith("/*")) {
+                continue;
+            }
+            for (String word : FORBIDDEN) {
+                Trial.due("line " + (i + 1) + " has " + word, code.contains(word), false);
+            }
+            boolean opens = line.matches(" {4}( {4})?[^ =;]+ [^=;]*\\(.*\\)[^=;]* \\{");
+            start = opens ? i : start;
+            if (start >= 0 && line.matches(" {4}( {4})?\\}")) {
+                Trial.due("the method at line " + (start + 1) + " is short", i - start <= 60, true);
+                start = -1;
+            }
+        }
+        Trial.due("imports " + imports, imports.equals(List.of("import java.util.Arrays;",
+            "import java.util.NoSuchElementException;")), true);
+    }
+}
