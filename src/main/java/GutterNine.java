@@ -1587,8 +1587,9 @@ public final class GutterNine {
                 int next = roof.step(cell, way, scene.who);
                 if (next != cell) {
                     moveOn(i, next);
-                    moved++;
                 }
+                // The ROLL is part of the GALE: what rolled back to its CELL was not moved.
+                moved += scene.place[i] == cell ? 0 : 1;
             }
             return moved;
         }

@@ -19,6 +19,7 @@ public final class RoofTest {
         hoses();
         brooms();
         gales();
+        galesRolledBack();
         passing();
         fetching();
         undoing();
@@ -308,10 +309,6 @@ public final class RoofTest {
         put(rolls, FRISBEE, 0, 0);
         rolls.gale(3);
         Trial.due("a frisbee rolls one step", rolls.thing(FRISBEE, 3), 2);
-        GutterNine back = Trial.of("fl ff", FIVE);
-        put(back, BALL, 0, 0);
-        Trial.due("it came, and rolled back: it was moved", back.gale(3), 1);
-        Trial.due("it is where it was", back.thing(BALL, 3), 0);
         GutterNine pipe = Trial.of("fp ff", FIVE);
         put(pipe, BALL, 0, 0);
         Trial.due("into a pipe", pipe.gale(3), 1);
@@ -319,6 +316,31 @@ public final class RoofTest {
         put(pipe, SECOND, 0, 0);
         Trial.due("a full pipe brings it", pipe.blown(0), 2);
         Trial.due("first of equal ways", pipe.blown(1), 2);
+    }
+
+    private static void galesRolledBack() {
+        GutterNine back = Trial.of("fl ff", FIVE);
+        put(back, BALL, 0, 0);
+        Trial.due("it came, and rolled back: it was not moved", back.gale(3), 0);
+        Trial.due("it is where it was", back.thing(BALL, 3), 0);
+        Trial.due("the gale can be undone all the same", back.count(10), 2);
+        put(back, FRISBEE, 0, 1);
+        Trial.due("one rolled back, one went on", back.gale(3), 1);
+        Trial.due("a frisbee goes on", back.thing(FRISBEE, 3), 9);
+        GutterNine slopes = Trial.of("dl gf", FIVE);
+        put(slopes, SHOE, 0, 1);
+        put(slopes, FRISBEE, 0, 0);
+        Trial.due("a frisbee rolled back to a slope", slopes.gale(3), 0);
+        Trial.due("the frisbee is where it was", slopes.thing(FRISBEE, 3), 0);
+        GutterNine on = Trial.of("ul ff", FIVE);
+        put(on, FRISBEE, 1, 0);
+        Trial.due("a frisbee on a slope to the back", on.thing(FRISBEE, 3), 0);
+        Trial.due("it rolls one step: back", on.gale(3), 0);
+        on.undo();
+        on.undo();
+        put(on, BALL, 1, 1);
+        Trial.due("a ball rolls on and on: over", on.gale(1), 1);
+        Trial.due("the ball is over", on.thing(BALL, 3), 65);
     }
 
     private static void passing() {

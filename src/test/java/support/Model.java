@@ -641,11 +641,13 @@ final class Model implements Cloneable {
             if (t.where != 'c' || t.kind == 1 || t.kind == 3 || "mg".indexOf(tileAt(t.x, t.y)) >= 0) {
                 continue;
             }
-            if (comesTo(t, way == 2 ? -1 : way == 3 ? 1 : 0, way == 0 ? 1 : way == 1 ? -1 : 0)) {
+            int ahead = t.place();
+            boolean came = comesTo(t, way == 2 ? -1 : way == 3 ? 1 : 0, way == 0 ? 1 : way == 1 ? -1 : 0);
+            if (came && t.where == 'c') {
+                roll(t);
+            }
+            if (t.place() != ahead) {
                 moved++;
-                if (t.where == 'c') {
-                    roll(t);
-                }
             }
         }
         return moved;
