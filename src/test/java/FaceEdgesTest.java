@@ -14,6 +14,7 @@ public final class FaceEdgesTest {
         tilesOfWhat();
         things();
         arms();
+        whoThrewItLast();
         tossRefused();
         tossWhere();
         rollsRefused();
@@ -151,6 +152,33 @@ public final class FaceEdgesTest {
         for (int odd : ODD) {
             Trial.due("arm(" + odd + ")", g.arm(odd), NONE);
         }
+    }
+
+    private static void whoThrewItLast() {
+        Trial.says("thing: 4: who threw it last, whatever moves it then");
+        GutterNine g = Trial.of("fff ggp", YARD + "first 5;");
+        Trial.due("nobody", g.thing(0, 4), NONE);
+        g.toss(1, 0, 1, 0, 0);
+        g.gale(3);
+        Trial.due("a gale", g.thing(0, 3) * 10 + g.thing(0, 4), 21);
+        g.broom();
+        Trial.due("a broom", g.thing(0, 3) * 10 + g.thing(0, 4), 641);
+        g.toss(1, 0, 0, 1, 0);
+        g.hose(1);
+        Trial.due("a hose", g.thing(0, 3) * 10 + g.thing(0, 4), 661);
+        g.days(1);
+        Trial.due("father", g.thing(0, 3) * 10 + g.thing(0, 4), 641);
+        g.toss(0, 0, 0, 0, 2);
+        Trial.due("thrown by another one", g.thing(0, 3) * 10 + g.thing(0, 4), 650);
+        g.fetch(1);
+        Trial.due("fetched by another one", g.thing(0, 3) * 10 + g.thing(0, 4), 640);
+        g.toss(0, 1, 0, 0, 0);
+        g.toss(1, 0, 0, 0, 0);
+        Trial.due("what is hit", g.thing(1, 3) * 10 + g.thing(1, 4), 80);
+        g.undo();
+        g.undo();
+        Trial.due("undone", g.thing(1, 3) * 10 + g.thing(1, 4), 640 - 1);
+        Trial.due("the third nobody threw", g.thing(2, 4), NONE);
     }
 
     private static void tossRefused() {

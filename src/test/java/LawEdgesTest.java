@@ -352,6 +352,16 @@ public final class LawEdgesTest {
         Trial.due("the roof", g.tile(1, 0, 0), 2);
         Trial.due("the YARD stays", g.count(3), 4);
         Trial.due("who has an arm of ten, too", g.arm(0), 10);
+        GutterNine told = Trial.of("ff ff", YARD + "shot left 0 up 2 times 5;shot left 0 up 3 times 7;net 2;"
+            + "window 1 1 reach 1;first 5;temper 9 + lost;damage 4;");
+        Trial.due("another roof", Trial.roof(told, "roof 3 3;row fpf;row fff;row fff;"), 0);
+        Trial.due("its shots and net stay", told.pitch(2), 5);
+        Trial.due("its first day stays", told.await(0), 1);
+        told.toss(0, 1, 1, 2, 0);
+        Trial.due("its window stays", told.broom(), 2);
+        told.toss(0, 1, 1, 0, 0);
+        told.days(1);
+        Trial.due("its laws stay", told.count(9), 4 + 10);
         GutterNine smaller = Trial.of("ffff ffff ffff", YARD);
         smaller.toss(0, 1, 3, 2, 0);
         smaller.see(3, 1);
