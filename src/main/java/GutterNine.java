@@ -1736,6 +1736,8 @@ public final class GutterNine {
     private static final class Chooser {
         private static final int FRAME = SIDE + 2;
         private static final int ALL = 80;
+        /** Below every GAIN: a THROW loses no more than the worth of one THING, and that is 99 at most. */
+        private static final int NO_GAIN = -100 * ALL;
 
         private final Play play;
         private final Scene scene;
@@ -1805,7 +1807,7 @@ public final class GutterNine {
 
         /** NEXT: somebody is there and something is in hand. */
         void choose() {
-            Arrays.fill(gains, Integer.MIN_VALUE);
+            Arrays.fill(gains, NO_GAIN);
             for (int thing = 0; thing < play.yard.things; thing++) {
                 if (scene.place[thing] == HAND) {
                     tabulate(thing);

@@ -206,6 +206,8 @@ public final class ChanceEdgesTest {
         dueNext("the last person, thing, cell", g, (50 - 4) * 80, 1, 2, 18);
         GutterNine loss = Trial.of("ff ff", "person a arm 10;thing x shoe of a worth 50;thing y shoe of a worth 9;");
         dueNext("all lose: the least", loss, -9 * 80, 0, 1, 0);
+        GutterNine worst = Trial.of("ff ff", "person a arm 10;thing x shoe of a worth 99;");
+        dueNext("there is none but the worst", worst, -99 * 80, 0, 0, 0);
         GutterNine slip = Trial.of("ff ff", "person a arm 0;thing x shoe of a worth 99;thing y shoe of a worth 0;");
         put(slip, 0, 0, 1);
         dueNext("at a CELL without a THING", slip, 99 * 10, 0, 1, 0);

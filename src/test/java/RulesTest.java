@@ -7,7 +7,10 @@ import java.nio.file.Path;
 import java.util.ArrayList;
 import java.util.Arrays;
 import java.util.List;
+import java.util.Set;
 import java.util.TreeSet;
+import java.util.regex.Matcher;
+import java.util.regex.Pattern;
 
 /** The public face, and what can be seen of the rules of LANGUAGE.md in the source. Runs in the project's folder. */
 public final class RulesTest {
@@ -20,11 +23,45 @@ public final class RulesTest {
         "otherwise int int int int int", "summer int int int int", "mark int boolean boolean", "count int int");
     private static final List<String> FORBIDDEN = List.of("->", "::", "catch", "finally", "synchronized", "assert ",
         "Exact(", "instanceof", "System.out", "Random", "nanoTime", "protected ", "@");
+    /** What is used of that which stands in rule 4. */
+    private static final Set<String> LIBRARY = Set.of("Arrays.fill", "System.arraycopy", "Integer.bitCount",
+        "Math.max", "Math.min", "Math.abs");
+    private static final Pattern OF_LIBRARY =
+        Pattern.compile("\\b(Arrays|System|Integer|Long|Math|String|Character|Boolean|Objects|List|Collections)\\.\\w+");
+    private static final String MADE_ONCE = " {4}( {4})?(private )?(final )?[\\w\\[\\]]+ \\w+ = new .*;";
 
     public static void main(String[] args) throws IOException {
         face();
-        source(Files.readAllLines(Path.of("src/main/java/GutterNine.java")));
+        List<String> lines = Files.readAllLines(Path.of("src/main/java/GutterNine.java"));
+        source(lines);
+        library(lines);
+        made(lines);
         Trial.end();
+    }
+
+    private static boolean isComment(String line) {
+        return line.trim().startsWith("*") || line.trim().startsWith("/");
+    }
+
+    private static void library(List<String> lines) {
+        for (String line : lines) {
+            Matcher used = OF_LIBRARY.matcher(isComment(line) || line.startsWith("import ") ? "" : line);
+            while (used.find()) {
+                Trial.due("rule 4 has " + used.group(), LIBRARY.contains(used.group()), true);
+            }
+        }
+    }
+
+    /** Whatever is made by new is made with the object, but for what is thrown: calls make nothing. */
+    private static void made(List<String> lines) {
+        for (int i = 0; i < lines.size(); i++) {
+            String line = lines.get(i);
+            if (!isComment(line) && line.contains("new ")) {
+                boolean once = line.matches(MADE_ONCE) || line.equals("            this.lawReader = new LawReader(tape);");
+                boolean thrown = line.matches(" *throw new NoSuchElementException\\(\"[a-z ]+\"\\);");
+                Trial.due("line " + (i + 1) + " makes something in a call", once || thrown, true);
+            }
+        }
     }
 
     private static void face() {
